@@ -4,7 +4,7 @@ import java.util.List;
 /** All promises: long runs of calls, each answer held against the model's; some of them of wild inputs. */
 public final class ModelTest {
     private static final Expect expect = new Expect("ModelTest");
-    private static final int RUNS = 400;
+    private static final int RUNS = 800;
     private static final int CALLS = 512;
 
     private static final String[] NAMES = {
@@ -13,6 +13,9 @@ public final class ModelTest {
         "law", "rounds", "kindFor", "hopes", "missed", "writers", "ways", "forged", "guess", "wind", "seed",
         "feed", "wipe", "text", "hold", "as", "sheet", "write", "copy", "load", "judge", "image", "undo", "tear",
         "count", "status"};
+
+    /** Calls that would take back too much of what a run has come to. */
+    private static final List<String> RARE = List.of("undo", "wipe", "tear");
 
     private static final String[] SCRAPS = {
         "hand", "keeping", "blind", "inlaw", "forging", "child", "imp", ";", ";", ";", " ", " ", "next ", "wish ",
@@ -40,17 +43,14 @@ public final class ModelTest {
         log = new ArrayList<>();
         int wild = run % 4 == 3 ? 3 : 40;
         int haste = run % 3;
-        for (int p = roll(9); p > 0; p--) {
-            call(x, y, "person", new int[] {roll(7), 0, 0, 0, 0});
-        }
-        for (int g = roll(6); g > 0; g--) {
-            call(x, y, "gift", new int[] {1 + roll(run % 2 == 0 ? 50 : 9), roll(100), roll(8), 0, 0});
-        }
-        boolean alike = true;
+        boolean alike = begin(x, y, run % 2 == 0 ? 50 : 9);
         while (alike && log.size() < CALLS) {
             String name = NAMES[roll(NAMES.length)];
             if (haste < 2 && name.equals("days") && roll(3) > haste) {
                 name = "wish";
+            }
+            if (RARE.contains(name) && roll(3) > 0) {
+                name = "ends";
             }
             if (name.equals("feed") && roll(2) == 0) {
                 alike = feedScraps(x, y);
@@ -61,8 +61,23 @@ public final class ModelTest {
         expect.due("run " + run + ", call " + log.size(), 1, alike ? 1 : 0);
     }
 
-    private static boolean feedScraps(WrappedHands x, Model y) {
+    private static boolean begin(WrappedHands x, Model y, int weight) {
         boolean alike = true;
+        int many = roll(9);
+        for (int p = 0; p < many && alike; p++) {
+            alike = call(x, y, "person", new int[] {roll(7), 0, 0, 0, 0});
+        }
+        for (int g = roll(6); g > 0 && alike; g--) {
+            alike = call(x, y, "gift", new int[] {1 + roll(weight), roll(100), roll(1 + roll(8)), 0, 0});
+        }
+        for (int s = roll(4); s > 0 && alike; s--) {
+            alike = call(x, y, "skin", new int[] {roll(5), roll(5), 0, 0, 0});
+        }
+        return alike;
+    }
+
+    private static boolean feedScraps(WrappedHands x, Model y) {
+        boolean alike = roll(2) == 0 || call(x, y, "wipe", new int[5]);
         StringBuilder text = new StringBuilder();
         if (roll(2) == 0) {
             for (int i = roll(9); i >= 0; i--) {
@@ -74,7 +89,7 @@ public final class ModelTest {
         for (int i = 0; i < text.length() && alike; i++) {
             alike = call(x, y, "feed", new int[] {text.charAt(i), 1, 0, 0, 0});
         }
-        return alike;
+        return alike && (roll(2) == 0 || call(x, y, "text", new int[5]));
     }
 
     private static String goodText() {
