@@ -4,6 +4,7 @@ public final class ImageTest {
 
     public static void main(String[] args) {
         undoTakesAllBack();
+        layersAndSkinsComeBack();
         tapeSheetsAndStatusStay();
         theLatestStays();
         tear();
@@ -77,6 +78,37 @@ public final class ImageTest {
         expect.due("z", 1, x.count(6));
         expect.due("days go on from there", 2, x.days(2));
         expect.due("KEPT by 2", 2, x.giftOf(0, 2));
+    }
+
+    /** What is undone has written over all of a gift that was kept. */
+    private static void layersAndSkinsComeBack() {
+        WrappedHands x = Coasts.hands(4);
+        x.change(0, 2, 7);
+        x.gift(3, 0, 0);
+        x.gift(4, 0, 1);
+        x.gift(5, 0, 1);
+        x.days(1);
+        x.open(1);
+        x.open(2);
+        long before = allOf(x);
+        x.image();
+        x.open(0);
+        x.send(0, 3);
+        x.days(1);
+        x.open(1);
+        x.open(2);
+        expect.due("1 in 2", 9, x.skin(1, 2));
+        expect.due("another has laid the layer", 3, x.layer(0, 0, 1));
+        x.undo();
+        expect.due("layers and skins", before, allOf(x));
+        expect.due("0 laid it", 0, x.layer(0, 0, 1));
+        expect.due("with the name 7", 7, x.layer(0, 0, 0));
+        expect.due("2 WEIGHS 5", 5, x.giftOf(2, 5));
+        x.skin(1, 2);
+        x.image();
+        x.days(1);
+        x.undo();
+        expect.due("2 WEIGHS 9", 9, x.giftOf(2, 5));
     }
 
     private static void tapeSheetsAndStatusStay() {

@@ -14,6 +14,7 @@ public final class PeopleAndGiftsTest {
         send();
         open();
         skin();
+        skinOfKeptOnes();
         skinOfSkins();
         expect.close();
     }
@@ -243,6 +244,17 @@ public final class PeopleAndGiftsTest {
         expect.due("the outer's own WEIGHT", 10, x.giftOf(1, 0));
         expect.due("a second time", Expect.STATE, x.skin(0, 1));
         expect.due("the other way round", Expect.STATE, x.skin(1, 0));
+    }
+
+    private static void skinOfKeptOnes() {
+        WrappedHands x = Coasts.of(Coasts.KEEPING);
+        x.gift(50, 0, 0);
+        x.days(1);
+        x.gift(3, 0, 0);
+        expect.due("KEPT by who has the other", 1, x.giftOf(0, 3));
+        expect.due("a KEPT one WITHIN it", Expect.STATE, x.skin(0, 1));
+        expect.due("it WITHIN a KEPT one", Expect.STATE, x.skin(1, 0));
+        expect.due("it is in a HAND still", 0, x.giftOf(1, 3));
     }
 
     private static void skinOfSkins() {

@@ -8,6 +8,7 @@ public final class SendingTest {
         sendersAndFates();
         roundsDontCount();
         wish();
+        theLastNumber();
         turn();
         ends();
         endsByTheFirst();
@@ -113,6 +114,21 @@ public final class SendingTest {
         expect.due("for nobody else", Expect.NONE, x.wish(0, 2));
     }
 
+    /** All eight there; the last number is the only one that does. */
+    private static void theLastNumber() {
+        WrappedHands x = Coasts.hands(8);
+        x.gift(1, 0, 0);
+        expect.due("wish(0, 7)", 7, x.wish(0, 7));
+        x.change(7, 0, Coasts.KEEPING);
+        x.change(7, 3, 0);
+        x.change(1, 1, 0);
+        x.change(6, 1, 0);
+        expect.due("turn(0, 0, 7)", 7, x.turn(0, 0, 7));
+        x.rule(0, 20);
+        x.change(0, 2, 5);
+        expect.due("ends(0)", 2, x.ends(0));
+    }
+
     private static void turn() {
         WrappedHands x = ringToTwo();
         expect.due("turn(0, 0, 0)", 0, x.turn(0, 0, 0));
@@ -166,6 +182,10 @@ public final class SendingTest {
         x.change(3, 3, 30);
         x.gift(40, 0, 1);
         expect.due("of 02, 03, 12, 13", 2, x.ends(0));
+        x.change(0, 0, Coasts.KEEPING);
+        x.change(0, 3, 0);
+        x.change(1, 1, 1);
+        expect.due("1 turned to 0", 10, x.ends(0));
     }
 
     private static void law() {
@@ -219,6 +239,9 @@ public final class SendingTest {
         x.change(0, 3, 10);
         expect.due("KEEPING at once", 1, x.kindFor(0));
         expect.due("its KIND stays", Coasts.IMP, x.of(0, 0));
+        x.change(0, 0, Coasts.BLIND);
+        expect.due("as one who is BLIND now", 1, x.kindFor(0));
+        expect.due("and stays so", Coasts.BLIND, x.of(0, 0));
         x.gift(10, 40, 1);
         expect.due("both as KEEPING", 1, x.kindFor(0));
         WrappedHands y = Coasts.hands(3);

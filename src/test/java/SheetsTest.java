@@ -142,6 +142,9 @@ public final class SheetsTest {
         expect.due("the other one", 1002340, told(x, 3));
         expect.due("this one", 112345, told(x, 0));
         expect.due("none", 0, x.copy(0, 5, 3, 6, 0));
+        expect.due("back again", 1, x.copy(3, 4, 0, 4, 1));
+        expect.due("4 where 5 was", 112344, told(x, 0));
+        x.write(0, 4, 5);
         expect.due("all", 5, x.copy(0, 0, 3, 0, 5));
         expect.due("all came", 1123450, told(x, 3));
     }
@@ -221,6 +224,10 @@ public final class SheetsTest {
         expect.due("the first of two", 1, x.judge(0, 0));
         x.sheet(1, 8, 0);
         expect.due("no numbers", 0, x.judge(1, 0));
+        x.sheet(2, 8, 2);
+        x.write(2, 0, 2);
+        x.send(2, 1);
+        expect.due("gift 2 goes from 1 to 2 and 0", 0, x.judge(2, 2));
         x.sheet(1, 16, 2);
         x.write(1, 0, -1);
         expect.due("WITHIN is -1, as in ahead()", 2, x.judge(1, 1));

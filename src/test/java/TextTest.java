@@ -161,6 +161,9 @@ public final class TextTest {
     private static void faultsOfWords() {
         faults("hands", 0);
         faults("han", 0);
+        faults("xand", 0);
+        faults("hanx", 0);
+        faults("hand mext 3", 5);
         faults("a", 0);
         faults("next 3", 0);
         faults("hand;wish 3", 5);
