@@ -33,6 +33,14 @@ final class Coasts {
         return ring(new int[many]);
     }
 
+    /** 0 writes 2, hands on to 1, who hands on to 2, who finds the own name on the inside. */
+    static WrappedHands ringToTwo() {
+        WrappedHands x = hands(3);
+        x.change(0, 2, 2);
+        x.gift(5, 10, 0);
+        return x;
+    }
+
     /** What the tape gets, a byte a call. */
     static void feed(WrappedHands x, String text) {
         for (int i = 0; i < text.length(); i++) {

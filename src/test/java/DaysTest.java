@@ -16,16 +16,8 @@ public final class DaysTest {
         expect.close();
     }
 
-    /** 0 writes 2, hands on to 1, who hands on to 2, who finds the own name on the inside. */
-    private static WrappedHands ringToTwo() {
-        WrappedHands x = Coasts.hands(3);
-        x.change(0, 2, 2);
-        x.gift(5, 10, 0);
-        return x;
-    }
-
     private static void daysInARing() {
-        WrappedHands x = ringToTwo();
+        WrappedHands x = Coasts.ringToTwo();
         expect.due("days(0)", Expect.BEYOND, x.days(0));
         expect.due("days(61)", Expect.BEYOND, x.days(61));
         expect.due("days(-1)", Expect.BEYOND, x.days(-1));
@@ -40,7 +32,7 @@ public final class DaysTest {
         expect.due("no more days for it", 0, x.days(60));
         expect.due("layers stay", 2, x.giftOf(0, 4));
         expect.due("DAY", 63, x.now(0));
-        WrappedHands y = ringToTwo();
+        WrappedHands y = Coasts.ringToTwo();
         y.gift(5, 1, 0);
         expect.due("two KEPT in one go", 2, y.days(60));
     }
@@ -141,7 +133,7 @@ public final class DaysTest {
     }
 
     private static void ahead() {
-        WrappedHands x = ringToTwo();
+        WrappedHands x = Coasts.ringToTwo();
         x.gift(1, 0, 1);
         x.gift(1, 0, 1);
         x.skin(1, 2);
@@ -169,7 +161,7 @@ public final class DaysTest {
     }
 
     private static void fateAndWhen() {
-        WrappedHands x = ringToTwo();
+        WrappedHands x = Coasts.ringToTwo();
         expect.due("fate", 2, x.fate(0));
         expect.due("when", 3, x.when(0));
         x.days(1);
@@ -197,7 +189,7 @@ public final class DaysTest {
     }
 
     private static void roundsHaveNoFate() {
-        WrappedHands x = ringToTwo();
+        WrappedHands x = Coasts.ringToTwo();
         x.change(0, 2, 7);
         x.rule(0, 13);
         expect.due("fate of a round", Expect.NONE, x.fate(0));
@@ -209,7 +201,7 @@ public final class DaysTest {
     }
 
     private static void seen() {
-        WrappedHands x = ringToTwo();
+        WrappedHands x = Coasts.ringToTwo();
         x.person(Coasts.HAND);
         expect.due("all of the way", 0b0111, x.seen(0));
         x.days(1);

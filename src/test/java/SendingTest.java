@@ -21,16 +21,8 @@ public final class SendingTest {
         expect.close();
     }
 
-    /** 0 writes 2, hands on to 1, who hands on to 2, who finds the own name on the inside. */
-    private static WrappedHands ringToTwo() {
-        WrappedHands x = Coasts.hands(3);
-        x.change(0, 2, 2);
-        x.gift(5, 10, 0);
-        return x;
-    }
-
     private static void wrongInputs() {
-        WrappedHands x = ringToTwo();
+        WrappedHands x = Coasts.ringToTwo();
         for (int wild : new int[] {-1, 1, 5, Integer.MAX_VALUE, Integer.MIN_VALUE}) {
             expect.due("senders(" + wild + ", 0)", Expect.BEYOND, x.senders(wild, 0));
             expect.due("fates(" + wild + ")", Expect.BEYOND, x.fates(wild));
@@ -50,7 +42,7 @@ public final class SendingTest {
     }
 
     private static void notInAHand() {
-        WrappedHands x = ringToTwo();
+        WrappedHands x = Coasts.ringToTwo();
         x.gift(1, 0, 0);
         x.skin(1, 0);
         x.days(3);
@@ -70,7 +62,7 @@ public final class SendingTest {
     }
 
     private static void sendersAndFates() {
-        WrappedHands x = ringToTwo();
+        WrappedHands x = Coasts.ringToTwo();
         // From 1 and 2 it gets the name 0 on the inside.
         expect.due("senders(0, 0)", 0b110, x.senders(0, 0));
         expect.due("senders(0, 1)", 0, x.senders(0, 1));
@@ -95,7 +87,7 @@ public final class SendingTest {
     }
 
     private static void wish() {
-        WrappedHands x = ringToTwo();
+        WrappedHands x = Coasts.ringToTwo();
         x.person(Coasts.HAND);
         // Names of nobody in the ring bring it to 0 by the law, as the name 0 does.
         expect.due("wish(0, 0)", 0, x.wish(0, 0));
@@ -130,7 +122,7 @@ public final class SendingTest {
     }
 
     private static void turn() {
-        WrappedHands x = ringToTwo();
+        WrappedHands x = Coasts.ringToTwo();
         expect.due("turn(0, 0, 0)", 0, x.turn(0, 0, 0));
         expect.due("turn(0, 0, 1)", Expect.NONE, x.turn(0, 0, 1));
         expect.due("turn(0, 0, 2)", 1, x.turn(0, 0, 2));
@@ -189,7 +181,7 @@ public final class SendingTest {
     }
 
     private static void law() {
-        WrappedHands x = ringToTwo();
+        WrappedHands x = Coasts.ringToTwo();
         expect.due("law of 1 gives it to 1", 1, x.law(0));
         expect.due("LAW stays", 9, x.now(4));
         x.change(0, 2, 1);
@@ -255,7 +247,7 @@ public final class SendingTest {
     }
 
     private static void hopes() {
-        WrappedHands x = ringToTwo();
+        WrappedHands x = Coasts.ringToTwo();
         x.gift(1, 20, 0);
         x.gift(1, 40, 1);
         x.gift(1, 7, 1);
@@ -277,7 +269,7 @@ public final class SendingTest {
         x.person(0);
         x.person(0);
         expect.due("no gifts", 0, x.missed());
-        WrappedHands y = ringToTwo();
+        WrappedHands y = Coasts.ringToTwo();
         // Without 1 it stays with 0, without 2 it stays with 1, each till the law.
         expect.due("the least of 1 and 2", 1, y.missed());
         y.change(1, 2, 2);

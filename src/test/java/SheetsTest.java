@@ -142,6 +142,10 @@ public final class SheetsTest {
         expect.due("the other one", 1002340, told(x, 3));
         expect.due("this one", 112345, told(x, 0));
         expect.due("none", 0, x.copy(0, 5, 3, 6, 0));
+        x.sheet(1, 32, 40);
+        x.write(1, 39, 6);
+        expect.due("the last of forty", 1, x.copy(1, 39, 1, 0, 1));
+        expect.due("its number", 160000000, told(x, 1));
         expect.due("back again", 1, x.copy(3, 4, 0, 4, 1));
         expect.due("4 where 5 was", 112344, told(x, 0));
         x.write(0, 4, 5);
