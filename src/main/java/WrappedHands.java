@@ -221,7 +221,7 @@ public final class WrappedHands {
         if (!coast.hasPerson(person) || !coast.hasGift(gift)) {
             return finding(BEYOND);
         }
-        return coast.receiverFrom(person, coast.gifts[gift]);
+        return coast.receiverFrom(person, coast.gifts[gift], NOBODY);
     }
 
     public int keeps(int person, int gift) {
@@ -846,7 +846,13 @@ public final class WrappedHands {
             }
         }
 
-        int receiverFrom(int p, Gift gift) {
+        /** Whether gifts can be handed on to one, with one (or NOBODY) gone. */
+        boolean canReceive(int p, int gone) {
+            return p >= 0 && p < peopleCount && p != gone;
+        }
+
+        /** Whom one hands a gift on to, there or not, with one (or NOBODY) gone. */
+        int receiverFrom(int p, Gift gift, int gone) {
             if (!hasPerson(p)) {
                 return NOBODY;
             }
@@ -854,7 +860,7 @@ public final class WrappedHands {
             boolean wrapped = gift.layers > 0;
             switch (people[p].kind) {
                 case BLIND:
-                case FORGING: return hasPerson(next) ? people[next].next : next;
+                case FORGING: return canReceive(next, gone) ? people[next].next : next;
                 case IN_LAW: return wrapped ? gift.outmostName() : next;
                 case IMP: return wrapped ? gift.handOf(gift.layers - 1) : next;
                 default: return next;
@@ -887,9 +893,9 @@ public final class WrappedHands {
             }
             // Both are told by the gift as it is before this one's own layer.
             int name = nameBy(p, gift, gift.layers);
-            int to = receiverFrom(p, gift);
+            int to = receiverFrom(p, gift, gone);
             gift.wrap(name, p);
-            if (hasPerson(to) && to != gone) {
+            if (canReceive(to, gone)) {
                 gift.holder = to;
             }
         }

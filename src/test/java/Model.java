@@ -113,7 +113,7 @@ final class Model {
         int hands(int p, List<Layer> layers) {
             int next = people.get(p).next;
             if (is(p, 2)) {
-                return there(next) ? people.get(next).next : next;
+                return there(next) && next != gone ? people.get(next).next : next;
             }
             if (layers.isEmpty()) {
                 return next;

@@ -18,6 +18,7 @@ public final class SendingTest {
         hopes();
         missed();
         missedByTheirOwnGifts();
+        missedByTheBlind();
         expect.close();
     }
 
@@ -305,5 +306,42 @@ public final class SendingTest {
         y.change(0, 1, 2);
         y.send(0, 0);
         expect.due("2 alone is missed", 2, y.missed());
+    }
+
+    private static void missedByTheBlind() {
+        WrappedHands x = Coasts.of(Coasts.BLIND, Coasts.HAND, Coasts.HAND);
+        x.gift(1, 0, 0);
+        // Without 1, the NEXT of 0, it stays with 0; 0 doesn't see past 1 to 2.
+        expect.due("1, the NEXT of the BLIND one", 1, x.missed());
+        expect.due("with 1 there it comes to 2", 2, x.fate(0));
+        expect.due("and is handed on to 2", 2, x.hands(0, 0));
+        x.change(0, 0, Coasts.FORGING);
+        expect.due("FORGING as BLIND", 1, x.missed());
+        x.change(0, 0, Coasts.HAND);
+        x.change(0, 1, 2);
+        expect.due("a HAND looks at its NEXT alone", 2, x.missed());
+        x.change(0, 0, Coasts.BLIND);
+        expect.due("2, whose NEXT isn't there, is the NEXT", 0, x.missed());
+        x.change(2, 1, 1);
+        x.change(1, 1, 1);
+        expect.due("1 and 2 again", 1, x.missed());
+        x.send(0, 2);
+        x.change(2, 0, Coasts.BLIND);
+        x.change(2, 1, 0);
+        x.change(0, 1, 1);
+        expect.due("0, past whom 2 hands on to 1", 0, x.missed());
+        blindOnesHandOnToNobodyElse();
+    }
+
+    private static void blindOnesHandOnToNobodyElse() {
+        WrappedHands x = Coasts.of(
+                Coasts.BLIND, Coasts.IN_LAW, Coasts.HAND, Coasts.HAND, Coasts.HAND);
+        x.change(0, 2, 3);
+        x.change(4, 2, 3);
+        x.change(4, 1, 2);
+        x.gift(1, 0, 0);
+        x.gift(1, 0, 4);
+        // Without 2 gift 0 stays with 0: NEXT is there, so it isn't handed on to NEXT.
+        expect.due("2 for both gifts", 2, x.missed());
     }
 }
