@@ -681,7 +681,7 @@ public final class WrappedHands {
         }
 
         int outmostName() {
-            return nameOn(layers - 1);
+            return layers > 0 && layers <= MOST_LAYERS ? names[layers - 1] : NOBODY;
         }
 
         void wrap(int name, int person) {

@@ -5,7 +5,9 @@ import java.lang.reflect.Method;
 import java.lang.reflect.Modifier;
 import java.nio.file.Files;
 import java.nio.file.Path;
+import java.util.HashMap;
 import java.util.HashSet;
+import java.util.Map;
 import java.util.Set;
 import java.util.regex.Matcher;
 import java.util.regex.Pattern;
@@ -13,6 +15,7 @@ import java.util.regex.Pattern;
 /** The rules of LANGUAGE.md that the program's text, or the class as it is compiled, shows. */
 public final class LanguageTest {
     private static final Expect expect = new Expect("LanguageTest");
+    private static final Pattern CALL = Pattern.compile("(?<!new )\\b(\\w+)\\(");
     private static final Path PROGRAM = Path.of("src/main/java/WrappedHands.java");
 
     private static final String[] FACE = {
@@ -131,8 +134,10 @@ public final class LanguageTest {
         Matcher m = Pattern.compile("(?m)^( {4}| {8})(?!for|if|switch|return|\\}| )(.*)\\) \\{\\n(?s)(.*?)\\n\\1\\}\\n")
                 .matcher(code);
         int many = 0;
+        Map<String, String> bodies = new HashMap<>();
         while (m.find()) {
             String head = m.group(2);
+            bodies.merge(nameIn(head), m.group(3), String::concat);
             boolean constructor = head.matches("(public )?[A-Z]\\w*\\(.*");
             boolean makes = Pattern.compile("\\bnew\\b").matcher(m.group(3)).find();
             expect.due("makes an object: " + head, 0, makes && !constructor ? 1 : 0);
@@ -141,5 +146,31 @@ public final class LanguageTest {
             many++;
         }
         expect.due("methods are found: " + many, 1, many > 100 ? 1 : 0);
+        for (String name : bodies.keySet()) {
+            int deep = depth(name, bodies, new HashSet<>());
+            expect.due("calls stand at most eight deep: " + name + " " + deep, 1, deep <= 8 ? 1 : 0);
+        }
+        expect.due("the deepest", 8, depth("missed", bodies, new HashSet<>()));
+    }
+
+    private static String nameIn(String head) {
+        String before = head.substring(0, head.indexOf('('));
+        return before.substring(before.lastIndexOf(' ') + 1);
+    }
+
+    /** How many methods stand at once; those of one name (becomeLike, begin) count as one that calls itself once. */
+    private static int depth(String name, Map<String, String> bodies, Set<String> open) {
+        if (!open.add(name)) {
+            return 1;
+        }
+        int most = 0;
+        Matcher call = CALL.matcher(bodies.get(name));
+        while (call.find()) {
+            if (bodies.containsKey(call.group(1))) {
+                most = Math.max(most, depth(call.group(1), bodies, open));
+            }
+        }
+        open.remove(name);
+        return most + 1;
     }
 }

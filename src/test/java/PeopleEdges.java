@@ -42,6 +42,40 @@ final class PeopleEdges {
         for (int spot = 0; spot <= 9; spot++) {
             s.due("spot " + spot, Expect.MISSING, x.as(spot, 0));
         }
+        nobodyThere();
+        nothingThere();
+    }
+
+    private void nobodyThere() {
+        WrappedHands x = new WrappedHands();
+        long[] beyond = {
+            x.of(0, 0), x.change(0, 0, 0), x.gift(1, 0, 0), x.send(0, 0), x.writes(0, 0), x.hands(0, 0),
+            x.keeps(0, 0), x.senders(0, 0), x.wish(0, 0), x.turn(0, 0, 0), x.kindFor(0), x.hopes(0), x.hold(0, 0)};
+        for (int i = 0; i < beyond.length; i++) {
+            s.due("BEYOND, with nobody there " + i, Expect.BEYOND, beyond[i]);
+        }
+        s.due("missed()", Expect.NONE, x.missed());
+        s.due("wind(1)", Expect.STATE, x.wind(1));
+        s.due("text()", -1, x.text());
+        s.due("days(60)", 0, x.days(60));
+    }
+
+    private void nothingThere() {
+        WrappedHands x = Scenes.onePerson();
+        long[] beyond = {
+            x.giftOf(0, 0), x.layer(0, 0, 0), x.send(0, 0), x.open(0), x.skin(0, 1), x.writes(0, 0), x.hands(0, 0),
+            x.keeps(0, 0), x.ahead(0, 2), x.fate(0), x.when(0), x.seen(0), x.senders(0, 0), x.fates(0),
+            x.wish(0, 0), x.turn(0, 0, 0), x.ends(0), x.law(0), x.writers(0, 0), x.ways(0), x.forged(0),
+            x.guess(0, 0)};
+        for (int i = 0; i < beyond.length; i++) {
+            s.due("BEYOND, with no gifts " + i, Expect.BEYOND, beyond[i]);
+        }
+        s.due("ahead(60, 0)", 0, x.ahead(60, 0));
+        s.due("ahead(60, 1)", 0, x.ahead(60, 1));
+        s.due("hopes(0)", 0, x.hopes(0));
+        s.due("kindFor(0)", 0, x.kindFor(0));
+        s.due("missed()", 0, x.missed());
+        s.due("wind(1)", Expect.STATE, x.wind(1));
     }
 
     private void person() {

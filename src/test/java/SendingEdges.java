@@ -284,9 +284,11 @@ final class SendingEdges {
         x.gift(1, 10, 3);
         // This one comes with one layer: a CHILD hands it on, to the round; an IMP back to 3, and gets it.
         s.due("both as an IMP", Coasts.IMP, x.kindFor(0));
-        x.change(0, 0, Coasts.KEEPING);
-        s.due("as one of another kind now", Coasts.IMP, x.kindFor(0));
-        s.due("the KIND is as it was", Coasts.KEEPING, x.of(0, 0));
+        for (int kind = 6; kind >= 0; kind--) {
+            x.change(0, 0, kind);
+            s.due("as one of kind " + kind + " now", Coasts.IMP, x.kindFor(0));
+            s.due("the KIND is as it was", kind, x.of(0, 0));
+        }
         s.due("without GIFTS", 0, Scenes.onePerson().kindFor(0));
         WrappedHands z = Scenes.rich();
         z.change(1, 3, 0);

@@ -150,10 +150,21 @@ final class SheetEdges {
             s.due("8 again", 8, x.sheet(0, b, 8));
             s.due("all of these come", 8, x.load(0));
             s.due("all 0 again", 0, x.of(7, 2));
+            s.due("the last of forty is 0", 0, lastOfForty(x, b));
             s.due("MISSING", 0, x.sheet(0, 0, 40));
             s.due("so it is", Expect.MISSING, x.load(0));
             s.due("MISSING still", 0, x.sheet(0, 0, 0));
         }
+    }
+
+    /** Made a second time, when the number was 7. */
+    private static int lastOfForty(WrappedHands x, int bits) {
+        x.sheet(1, bits, 40);
+        x.write(1, 39, 7);
+        x.sheet(1, bits, 40);
+        x.copy(1, 39, 1, 0, 1);
+        x.load(1);
+        return x.of(0, 2);
     }
 
     private void sheetRefused() {
