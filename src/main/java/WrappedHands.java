@@ -69,9 +69,9 @@ public final class WrappedHands {
     private static final int WORDS = 15;
     private static final int NO_WORD = -1;
 
-    private final Coast coast = new Coast();
+    private final Outlook outlook = new Outlook();
+    private final Coast coast = outlook.coast;
     private final Coast kept = new Coast();
-    private final Outlook outlook = new Outlook(coast);
     private final Tape tape = new Tape();
     private final TextReader reader = new TextReader();
     private final Sheet[] sheets = new Sheet[SHEETS];
@@ -975,17 +975,14 @@ public final class WrappedHands {
     }
 
     /**
-     * What becomes of gifts: a copy of one walks through the days to come. To try another trait or law,
-     * the coast gets it for as long as the trial lasts.
+     * What becomes of the gifts of its coast: a copy of one walks through the days to come. To try another
+     * trait or law, the coast gets it for as long as the trial lasts. The coast is made here and taken from
+     * here, so that no constructor hands out a part of what it makes.
      */
     private static final class Outlook {
-        final Coast coast;
+        final Coast coast = new Coast();
         final Gift walker = new Gift();
         int daysWalked = 0;
-
-        Outlook(Coast ofCoast) {
-            coast = ofCoast;
-        }
 
         void walk(Gift gift, int n) {
             walker.becomeLike(gift);

@@ -30,12 +30,12 @@ public final class LanguageTest {
         "int sheet(int,int,int)", "int write(int,int,int)", "int copy(int,int,int,int,int)", "int load(int)",
         "int judge(int,int)", "int image()", "int undo()", "int tear()", "int count(int)", "int status(int)"};
 
-    /** Rules 2, 4, 6 and 13, as far as words tell. */
+    /** Rules 2, 4, 6, 12 (a constructor that gets nothing is handed nothing) and 13, as far as words tell. */
     private static final String[] FORBIDDEN = {
         "->", "::", "@", "\\b(throw|throws|try|catch|finally|synchronized|assert|volatile|native)\\b",
         "\\b(import|package|instanceof|Object|System\\.(?!arraycopy)\\w+|Thread|Random|File)\\b",
         "\\b\\w+Exact\\b", "\\b(equals|hashCode|toString|String\\.\\w+)\\s*\\(", "\\bwhile\\b", "\"\\s*\\+|\\+\\s*\"",
-        "\\b(double|float|protected)\\b"};
+        "\\b(double|float|protected)\\b", "\\bnew\\s+\\w+\\([^)]"};
 
     public static void main(String[] args) throws IOException {
         String code = withoutTexts(Files.readString(PROGRAM));
